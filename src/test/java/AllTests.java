@@ -1,8 +1,10 @@
-/** Runs every test of the project, and ends with exit code 1 if one fails. */
+import java.io.IOException;
+
+/** Runs every test of the project on the program whose file is named, and ends with exit code 1 if one fails. */
 public final class AllTests {
     private AllTests() { }
 
-    public static void main(String[] args) {
+    public static void main(String[] args) throws IOException {
         CityTest.run();
         TextsTest.run();
         LetsTest.run();
@@ -11,6 +13,9 @@ public final class AllTests {
         BillsTest.run();
         SwapsTest.run();
         SheetsTest.run();
+        RandomRunsTest.run();
+        RoomTest.run();
+        LanguageTest.run(args.length > 0 ? args[0] : "src/main/java/SkipCity.java");
         System.out.println(Checks.passed + " passed, " + Checks.failed + " failed");
         if (Checks.failed != 0) {
             System.exit(1);
