@@ -607,18 +607,14 @@ public final class SkipCity {
     /** Whether k of what was DRAWN are likely with so many of the SORT in all. The sums stay below 2 to the 63rd. */
     private boolean isLikely(Load load, int k, int all) {
         int n = load.drawnInAll;
-        long atMost = 0;
-        long atLeast = 0;
-        for (int j = 0; j <= n; j++) {
-            long these = choices(all, j) * choices(load.pieces - all, n - j);
-            if (j <= k) {
-                atMost += these;
-            }
-            if (j >= k) {
-                atLeast += these;
-            }
-        }
+        int others = load.pieces - all;
         long any = choices(load.pieces, n);
+        long fewer = 0;
+        for (int j = 0; j < k; j++) {
+            fewer += choices(all, j) * choices(others, n - j);
+        }
+        long atMost = fewer + choices(all, k) * choices(others, n - k);
+        long atLeast = any - fewer;
         return 40 * atMost >= any && 40 * atLeast >= any;
     }
 

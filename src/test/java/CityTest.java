@@ -134,6 +134,13 @@ final class CityTest extends Case {
             due("permit on " + day, y.about(0, 6), has[day]);
             y.pass(1);
         }
+        for (int i = 0; i < 4; i++) {
+            y.pass(i < 3 ? 100 : 94);
+        }
+        due("count(0)", y.count(0), 399);
+        due("no permit on 399", y.about(0, 6), 0);
+        y.permit(0, 399, 399);
+        due("permit on 399", y.about(0, 6), 1);
         for (int what : new int[] {-1, 7, Integer.MAX_VALUE, Integer.MIN_VALUE}) {
             refused("about what", Town::made, t -> t.about(0, what), -2);
         }

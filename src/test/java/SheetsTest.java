@@ -21,6 +21,7 @@ final class SheetsTest extends Case {
         due("sheet of 90", x.sheet(3, 2, 90), 90);
         due("item 89", x.get(3, 2, 89), 0);
         due("put", x.put(3, 2, 89, 5), 1);
+        due("item 89", x.get(3, 2, 89), 5);
         due("a new row", x.sheet(3, 2, 90), 90);
         due("is of zeros", x.get(3, 2, 89), 0);
         due("another form", x.sheet(3, 0, 1), 1);
@@ -217,6 +218,22 @@ final class SheetsTest extends Case {
         return (h * 31 + x.lapsed()) * 31 + x.plan(2);
     }
 
+    /** With REACH 40 three LORRIES alone have a plan, with 80 one has none. */
+    private static void digestOfTwoLorries() {
+        for (int reach : new int[] {40, 80}) {
+            SkipCity x = new SkipCity();
+            x.kerb(0, 50, 60, 30);
+            x.tip(50, 50, 1, 0, 23, 0);
+            for (int i = 0; i < 6; i++) {
+                x.task(0, 4, 0);
+            }
+            x.reach(reach);
+            due("plan with two", x.plan(2), reach == 40 ? -3 : 120);
+            due("plan with the others", x.plan(reach == 40 ? 3 : 1), reach == 40 ? 120 : -3);
+            due("digest with two", x.digest(), digestOf(x));
+        }
+    }
+
     private static void digest() {
         SkipCity x = Town.made();
         due("digest", x.digest(), digestOf(x));
@@ -226,6 +243,7 @@ final class SheetsTest extends Case {
         due("findings are not of it", x.digest(), 7746366858075828502L);
         x.reach(1);
         due("digest without a plan", x.digest(), digestOf(x));
+        digestOfTwoLorries();
         type(x, 2, "x");
         x.asOf(0);
         x.pass(30);

@@ -55,8 +55,9 @@ final class SwapsTest extends Case {
         x.task(0, 4, 0);
         x.task(1, 4, 0);
         due("plan", x.plan(1), 60);
-        x.reach(50);
         due("clear", x.clear(), 2);
+        due("plan of none", x.plan(1), 0);
+        x.reach(50);
         due("count(9)", x.count(9), 0);
         due("plan of none", x.plan(1), 0);
         due("reach stays", x.reach(400), 50);

@@ -21,6 +21,8 @@ final class WeightsTest extends Case {
         due("weight", x.weighs(1, 0), 3000);
         due("weigh again", x.weigh(1, 2, 1, 3), 1);
         due("weight", x.weighs(1, 0), 1);
+        due("a weight of 1 is known", x.count(7), 2);
+        due("a weight of 1 counts", x.lost(5, 0, 2), 1);
         x.drift(2, 50);
         due("weigh on the day", x.weigh(1, 2, 50, 4), 1);
         due("one at least is left", x.weighs(1, 0), 1);
