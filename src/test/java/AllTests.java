@@ -14,6 +14,7 @@ public final class AllTests {
         SwapsTest.run();
         SheetsTest.run();
         RandomRunsTest.run();
+        AnyNumbersTest.run();
         RoomTest.run();
         LanguageTest.run(args.length > 0 ? args[0] : "src/main/java/SkipCity.java");
         System.out.println(Checks.passed + " passed, " + Checks.failed + " failed");
