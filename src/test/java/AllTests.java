@@ -13,6 +13,16 @@ public final class AllTests {
         BillsTest.run();
         SwapsTest.run();
         SheetsTest.run();
+        Sentences.read();
+        CityEdges.run();
+        TextsEdges.run();
+        LetsEdges.run();
+        WeightsEdges.run();
+        SortsEdges.run();
+        BillsEdges.run();
+        SwapsEdges.run();
+        SheetsEdges.run();
+        Sentences.allAreClaimed();
         RandomRunsTest.run();
         AnyNumbersTest.run();
         RoomTest.run();

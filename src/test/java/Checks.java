@@ -5,6 +5,8 @@ import java.util.function.ToLongFunction;
 final class Checks {
     static int passed = 0;
     static int failed = 0;
+    // What stands ahead of each line that is printed.
+    static String about = "";
 
     private Checks() { }
 
@@ -13,7 +15,7 @@ final class Checks {
             passed++;
         } else {
             failed++;
-            System.out.println(what + " answered " + got + ", due is " + want);
+            System.out.println(about + what + " answered " + got + ", due is " + want);
         }
     }
 
@@ -22,7 +24,7 @@ final class Checks {
             passed++;
         } else {
             failed++;
-            System.out.println(what + " is not as it was: " + firstDifference(got, want));
+            System.out.println(about + what + " is not as it was: " + firstDifference(got, want));
         }
     }
 
@@ -37,8 +39,7 @@ final class Checks {
     }
 
     /**
-     * A refused call answers as told and changes nothing; a FINDING changes count() 8 alone. Two objects are made
-     * in the same way, so that neither is asked more often than the document allows.
+     * A refused call answers as told and changes nothing; a FINDING changes count() 8 alone.
      */
     static void refused(String what, Supplier<SkipCity> made, ToLongFunction<SkipCity> call, long want) {
         refused(what, made, call, want, want <= -11 && want >= -15 ? (int) (-10 - want) : 0);
@@ -50,7 +51,11 @@ final class Checks {
         int before = x.count(8);
         due(what, call.applyAsLong(x), want);
         due(what + ", then count(8)", x.count(8), finding == 0 ? before : finding);
-        due(what + ", then all else", Town.snapshot(x), Town.snapshot(made.get()));
+        due(what + ", then all else", Snapshot.of(() -> {
+            SkipCity y = made.get();
+            call.applyAsLong(y);
+            return y;
+        }), Snapshot.of(made));
     }
 
     static void type(SkipCity x, int text, String bytes) {
