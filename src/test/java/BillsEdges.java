@@ -112,6 +112,7 @@ final class BillsEdges extends Edges {
                 x.draw(0, 1, 0);
                 due("all of SORT 0, though DRAWN of SORT 1", x.guess(0), 16 + 90);
                 byOthers();
+                mostForetold();
                 due("no TIPS", noTips().guess(0), 16 + 90);
                 SkipCity fee = noTips();
                 fee.tip(0, 0, 32, 23, 23, 101);
@@ -148,6 +149,25 @@ final class BillsEdges extends Edges {
         due("known", y.guess(0), 16 + 7);
         y.asOf(0);
         due("not known", y.guess(0), 16 + 90);
+    }
+
+    /** 3050 by a height of 1, times 200: no sum of it may wrap. */
+    private static void mostForetold() {
+        SkipCity x = new SkipCity();
+        x.kerb(0, 0, 0, 60);
+        x.tip(0, 0, 63, 0, 23, 500);
+        x.drift(0, -50);
+        x.permit(0, 0, 0);
+        x.skip(1);
+        type(x, 0, "o999");
+        type(x, 4, "s0=999");
+        x.let(0, 0, 0, 0);
+        x.fetch(0, 0, 1);
+        x.weigh(0, 0, 3000, 0);
+        x.let(0, 0, 0, 0);
+        x.fetch(1, 0, 200);
+        due("FORETOLD", x.foretell(0, 1, 200, 1), 610000);
+        due("the most", x.guess(1), 16 + 20 + 609880 / 100 * 999 + 80 * 999 / 100 + 6100 * 999 + 6100 * 500);
     }
 
     private static SkipCity noTips() {
