@@ -397,6 +397,16 @@ final class SheetsEdges extends Edges {
                 digest("a town without a plan", after(Town::made, x -> x.reach(1)).get());
                 digest("a town with a FAULT", after(Town::made, x -> x.type(2, 'x')).get());
                 digest("a town as of DAY 0", after(Town::made, x -> x.asOf(0)).get());
+                // With 120 MILES in all: one LORRY alone, two, three are needed, none are enough.
+                int[] plans = {120, 120, NOT, NOT};
+                int[] reaches = {120, 60, 40, 39};
+                for (int i = 0; i < reaches.length; i++) {
+                    SkipCity six = sixTasks(reaches[i]);
+                    due("plan(2) in REACH " + reaches[i], six.plan(2), plans[i]);
+                    digest("six TASKS in REACH " + reaches[i], six);
+                    six.plan(3);
+                    digest("six TASKS, whatever was asked before", six);
+                }
                 SkipCity x = Town.made();
                 long h = x.digest();
                 x.lose(3);
@@ -407,6 +417,15 @@ final class SheetsEdges extends Edges {
                 x.holiday(399, false);
                 due("the same again", x.digest(), h);
             });
+    }
+
+    private static SkipCity sixTasks(int reach) {
+        SkipCity x = new SkipCity();
+        x.kerb(0, 50, 60, 60);
+        x.tip(50, 50, 1, 0, 23, 0);
+        for (int i = 0; i < 6; i++) x.task(0, 4, 0);
+        x.reach(reach);
+        return x;
     }
 
     private static void digest(String what, SkipCity x) {

@@ -224,6 +224,8 @@ final class WeightsEdges extends Edges {
                 lost(weighed(of(100), 80), 100, 180, 1);
                 lost(weighed(of(100), 180), 0, 180, 1);
                 lost(weighed(of(100), 181), -1, 180, 1);
+                lost(weighed(of(100), 1), 179, 180, 1);
+                lost(weighed(of(100), 3000), -2820, 180, 1);
                 // By the other alone: 200 and 100.
                 lost(weighed(of(100, 100), 100, 200), 0, 300, 2);
                 // By the two others: (200 + 301) / 2, (100 + 301) / 2, (100 + 200) / 2.
