@@ -4,7 +4,7 @@ import java.io.IOException;
 public final class AllTests {
     private AllTests() { }
 
-    public static void main(String[] args) throws IOException {
+    public static void main(String[] args) throws IOException, ReflectiveOperationException {
         CityTest.run();
         TextsTest.run();
         LetsTest.run();
@@ -24,8 +24,10 @@ public final class AllTests {
         SheetsEdges.run();
         Sentences.allAreClaimed();
         RandomRunsTest.run();
+        PlansTest.run();
         AnyNumbersTest.run();
         RoomTest.run();
+        ReadmeTest.run();
         LanguageTest.run(args.length > 0 ? args[0] : "src/main/java/SkipCity.java");
         System.out.println(Checks.passed + " passed, " + Checks.failed + " failed");
         if (Checks.failed != 0) {
